@@ -20,8 +20,8 @@ public final class TypedLisp {
     private static final int NAMES = 8;
     private static final int FIRST_OWN_NAME = 2;
 
-    /** The inputs (or the parameter, in the first), and a ':' takes 5 characters at least. */
-    private static final int SLOTS = INPUTS + TEXT_LIMIT / 5;
+    /** The inputs (or the parameter, in the first); each ':' has 4 characters of its own, even if it does not end. */
+    private static final int SLOTS = INPUTS + TEXT_LIMIT / 4;
     /** A variable with none, A, D, AA, AD, DA, DD behind it. */
     private static final int PATHS = 7;
     private static final int KIND_BITS = 5;
@@ -414,12 +414,12 @@ public final class TypedLisp {
 
         private Node readBinding(int start, int depth) {
             int bound = freeName(peek());
-            if (bound == NONE || nextSlot >= SLOTS) {
+            if (bound == NONE) {
                 return null;
             }
             at++;
             Node first = readPart(depth);
-            if (first == null) {
+            if (first == null || nextSlot >= SLOTS) {
                 return null;
             }
             // Each binding has a slot of its own: a remembered view may tell of one whose name is free again.
@@ -545,13 +545,14 @@ public final class TypedLisp {
         }
 
         void restrict(int place, int kinds) {
-            int slot = place / PATHS;
-            if (place < 0 || slot >= SLOTS) {
+            if (place < 0 || place >= SLOTS * PATHS) {
                 return;
             }
+            int slot = place / PATHS;
+            int path = place % PATHS;
             long others = ANY & ~kinds;
-            words[slot] &= ~(others << KIND_BITS * (place % PATHS));
-            if (says(place) == 0) {
+            words[slot] &= ~(others << KIND_BITS * path);
+            if (kindsIn(words[slot], path) == 0) {
                 sayNothing();
             }
         }

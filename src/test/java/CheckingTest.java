@@ -234,11 +234,19 @@ public final class CheckingTest {
         typeZero();
     }
 
-    /** c and d can't both be as the views say: nothing behind them is checked, and has type 0. */
+    /** In X, c is a number, so that a must be one, but a is a pair: neither c nor its being FALSE is possible. */
     private static void typeZero() {
-        String never = "(?(&(Na)(Bc))(?c1(?(Nc)12))3)";
-        DUE.same("a number that is c", new Session().checked("(:c(Na)" + never + ")"), "1");
-        check("(:c(Na)(?(Pa)(?c(?c#~)~)~))", "4", IMPOSSIBLE, ALL);
+        Session x = new Session();
+        x.define("Gd*(Nd)");
+        x.define("Hdn(C1d)");
+        String[] texts = {"c", "(?c#.)", "(A(?c#.))", "(N(?c#.))", "(!c)", "(&c#)", "(|c#)", "(+(?c#.)1)",
+            "(<(?c#.)1)", "(C(?c#.)1)", "(:d(?c#.)(A1))", "(:d(?c#.)#)", "(G(?c#.))", "(H(?c#.))", "(?(?c#.).#)"};
+        int[] types = {1, 0, 0, 0, 0, 0, 1, 1, 6, 16, 0, 0, 6, 16, 0};
+        for (int i = 0; i < texts.length; i++) {
+            String text = "(:c(?(Na)1~)(?(Nc)(?(Pa)" + texts[i] + "3)4))";
+            DUE.same(text, x.checked(text), types[i] | 1);
+        }
+        refused(x, "(:c(?(Na)1~)(?(Nc)(?(Pa)(+c#)3)4))", 24);
     }
 
     private static void firstFault() {

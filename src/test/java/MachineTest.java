@@ -99,7 +99,8 @@ public final class MachineTest {
         x.check("(Cab)");
         DUE.same("EMPTY at first", x.ran(9) + ": " + cell(x, 13), "1 3 13 14: 16 0 2 2");
         DUE.same("a cell of a run", x.input(0, 13), Session.ARGUMENT);
-        DUE.same("a pair with a cell of a run", x.pair(13, 0), Session.ARGUMENT);
+        DUE.same("a pair of a run's cell", x.pair(13, 0), Session.ARGUMENT);
+        DUE.same("a pair with a run's cell", x.pair(0, 13), Session.ARGUMENT);
         DUE.same("a is 5", x.input(0, 8), Session.DONE);
         DUE.same("b is TRUE", x.input(1, 0), Session.DONE);
         DUE.same("the run's cell is still there", x.result() + " " + x.count(), "13 14");

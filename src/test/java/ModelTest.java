@@ -23,6 +23,9 @@ public final class ModelTest {
         for (int run = 0; run < RUNS; run++) {
             new ModelTest(RUNS + run).expressions();
         }
+        for (int run = 0; run < RUNS; run++) {
+            new ModelTest(2 * RUNS + run).walks();
+        }
         DUE.end();
     }
 
@@ -124,6 +127,24 @@ public final class ModelTest {
     private static String done(Runnable call) {
         call.run();
         return "done";
+    }
+
+    /** Goes on with what may follow, whatever that is, so that the texts get as long and as deep as they can. */
+    private void walks() {
+        for (int k = writer.below(3); k > 0; k--) {
+            write(writer.definition());
+            same("define", lisp::define, model::define);
+        }
+        boolean defining = writer.below(3) == 0;
+        String text = "";
+        for (int i = 0; i < 300 && text.length() < 60; i++) {
+            write(text + writer.character());
+            same("read", defining ? lisp::define : lisp::check, defining ? model::define : model::check);
+            same("fault", lisp::fault, model::fault);
+            if (model.fault() == trail.length()) {
+                text = trail;
+            }
+        }
     }
 
     private void expressions() {

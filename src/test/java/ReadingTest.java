@@ -10,6 +10,7 @@ public final class ReadingTest {
         nesting();
         scope();
         freeNames();
+        manyBindings();
         functionsInTexts();
         definitions();
         DUE.end();
@@ -134,6 +135,21 @@ public final class ReadingTest {
         DUE.same("no name left, a name behind", x.defined(all + "h1h))))))"), Session.ARGUMENT + "@" + (all.length() - 1));
         String last = "Gc*(:d1(:e1(:f1(:g1(:h(:h1h)(!h))))))";
         DUE.same("the last name in e", x.defined(last), "4");
+    }
+
+    /** A text that never ends can begin more bindings than one that does. */
+    private static void manyBindings() {
+        Session x = new Session();
+        String closed = "(:c(:c(:c11)(:d11))(:d(:e11)(:e11)))";
+        String open = "(:c" + closed + "(:d1(:e1(:f1(:g1(:h1";
+        DUE.same("length", open.length(), 59);
+        DUE.same("13 bindings", x.checked(open), Session.ARGUMENT + "@59");
+        DUE.same("13 bindings and a leaf", x.checked(open + "h"), Session.ARGUMENT + "@60");
+        DUE.same("13 bindings and a bracket", x.checked(open + "("), Session.ARGUMENT + "@59");
+        String eleven = closed.replace("(:e11)", "(:e(:f1f)(:g1g))");
+        DUE.same("length of eleven", eleven.length(), 56);
+        DUE.same("eleven that end", x.checked(eleven), "1");
+        DUE.same("eleven and a test", x.checked("(N" + eleven + ")"), "2");
     }
 
     private static void functionsInTexts() {

@@ -28,6 +28,10 @@ final class Writer {
         return text.substring(0, at) + other + text.substring(at + below(2));
     }
 
+    char character() {
+        return pick("(((((::::::))NBEP!ADC+-<?&|GHIabcdefghcdefgh1#~.*nblp");
+    }
+
     private char pick(String letters) {
         return letters.charAt(below(letters.length()));
     }
