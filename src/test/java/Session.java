@@ -10,6 +10,7 @@ final class Session {
     static final String DONE = "done";
 
     private final TypedLisp lisp = new TypedLisp();
+    private int calls = 0;
 
     private interface Call {
         Object make();
@@ -29,10 +30,20 @@ final class Session {
         }
     }
 
+    private TypedLisp called() {
+        calls++;
+        return lisp;
+    }
+
+    /** How many calls the object has answered since it was made; each character that was typed is one. */
+    int calls() {
+        return calls;
+    }
+
     Session text(String s) {
-        lisp.wipe();
+        called().wipe();
         for (int i = 0; i < s.length(); i++) {
-            lisp.type(s.charAt(i));
+            called().type(s.charAt(i));
         }
         return this;
     }
@@ -55,7 +66,7 @@ final class Session {
     }
 
     private String withFault(String answer) {
-        return lisp.fault() == -1 ? answer : answer + "@" + lisp.fault();
+        return called().fault() == -1 ? answer : answer + "@" + called().fault();
     }
 
     /** What a view says of an input with all letters. */
@@ -72,70 +83,86 @@ final class Session {
         return run(steps) + " " + steps() + " " + result() + " " + count();
     }
 
+    /** A cell as a text: 5, #, ~, . or (5 .), for a pair of 5 and EMPTY. */
+    String written(int i) {
+        switch (cell(i, 0)) {
+            case "1":
+                return cell(i, 1);
+            case "2":
+                return "#";
+            case "4":
+                return "~";
+            case "8":
+                return ".";
+            default:
+                return "(" + written(Integer.parseInt(cell(i, 2))) + " " + written(Integer.parseInt(cell(i, 3))) + ")";
+        }
+    }
+
     boolean type(char c) {
-        return lisp.type(c);
+        return called().type(c);
     }
 
     void wipe() {
-        lisp.wipe();
+        called().wipe();
     }
 
     String define() {
-        return answer(lisp::define);
+        return answer(called()::define);
     }
 
     String check() {
-        return answer(lisp::check);
+        return answer(called()::check);
     }
 
     int fault() {
-        return lisp.fault();
+        return called().fault();
     }
 
     String view(boolean yes, int input, int letters) {
-        return answer(() -> lisp.view(yes, input, letters));
+        return answer(() -> called().view(yes, input, letters));
     }
 
     void forget() {
-        lisp.forget();
+        called().forget();
     }
 
     String number(int v) {
-        return answer(() -> lisp.number(v));
+        return answer(() -> called().number(v));
     }
 
     String pair(int first, int second) {
-        return answer(() -> lisp.pair(first, second));
+        return answer(() -> called().pair(first, second));
     }
 
     String input(int which, int cell) {
         return answer(() -> {
-            lisp.input(which, cell);
+            called().input(which, cell);
             return DONE;
         });
     }
 
     void clear() {
-        lisp.clear();
+        called().clear();
     }
 
     String run(int steps) {
-        return answer(() -> lisp.run(steps));
+        return answer(() -> called().run(steps));
     }
 
     int steps() {
-        return lisp.steps();
+        return called().steps();
     }
 
     int result() {
-        return lisp.result();
+        return called().result();
     }
 
     int count() {
-        return lisp.count();
+        return called().count();
     }
 
     String cell(int i, int what) {
-        return answer(() -> lisp.cell(i, what));
+        return answer(() -> called().cell(i, what));
     }
 }

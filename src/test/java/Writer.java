@@ -32,7 +32,7 @@ final class Writer {
         return pick("(((((::::::))NBEP!ADC+-<?&|GHIabcdefghcdefgh1#~.*nblp");
     }
 
-    private char pick(String letters) {
+    char pick(String letters) {
         return letters.charAt(below(letters.length()));
     }
 
@@ -46,7 +46,7 @@ final class Writer {
         return "1";
     }
 
-    private String part(String scope, int depth) {
+    String part(String scope, int depth) {
         if (depth == 0 || below(8) == 0) {
             return String.valueOf(below(3) == 0 ? pick("0123456789#~.") : pick(scope));
         }
