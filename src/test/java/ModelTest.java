@@ -6,6 +6,9 @@ public final class ModelTest {
     private static final Due DUE = new Due();
     private static final int RUNS = 400;
     private static final int CALLS = 512;
+    /** In a Z of these, what c remembers and what is known already leave little or nothing that can be. */
+    private static final String[] NARROW = {"(:c(?(Na)1~)(?(&(Nc)(Pa))Z3))", "(:c(Na)(?(Pa)Z3))", "(:c(|(Na)(Pb))(?(&(Pa)(Nb))Z.))",
+        "(:c(!a)(&aZ))", "(?(Na)(:c(Pa)Z)b)", "(:c(&(Pa)(P(Aa)))(|cZ))"};
 
     private final Twin twin = new Twin(DUE);
     private final Writer writer;
@@ -23,6 +26,9 @@ public final class ModelTest {
         }
         for (int run = 0; run < RUNS; run++) {
             new ModelTest(2 * RUNS + run).walks();
+        }
+        for (int run = 0; run < RUNS; run++) {
+            new ModelTest(3 * RUNS + run).narrowViews();
         }
         DUE.end();
     }
@@ -131,6 +137,24 @@ public final class ModelTest {
                 allViews();
                 if (type.length() < 3) {
                     keepsItsWord(Integer.parseInt(type));
+                }
+            }
+        }
+    }
+
+    /** Types of 0, impossible views and what is not checked are rare in texts that are made up freely. */
+    private void narrowViews() {
+        twin.write(writer.definition());
+        twin.define();
+        for (int i = 0; i < 200; i++) {
+            String part = writer.part("abcc", 1 + writer.below(4)).replace("7", "(?c#.)").replace("8", "(?c#.)");
+            String text = NARROW[writer.below(NARROW.length)].replace("Z", part);
+            if (text.length() <= 60) {
+                twin.write(text);
+                String type = twin.check();
+                twin.fault();
+                if (type.length() < 3) {
+                    allViews();
                 }
             }
         }
